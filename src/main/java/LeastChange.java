@@ -39,7 +39,7 @@ public final class LeastChange {
     private static final long DIGEST_MODULUS = 2147483647L;
 
     private final Rules rules = new Rules();
-    private final Search search = new Search();
+    private final Search search = new Search(rules);
     private final Found found = new Found();
     private final int[] versions = new int[MOST_NAMES];
     private final int[] locked = new int[MOST_NAMES];
@@ -109,7 +109,7 @@ public final class LeastChange {
         if (most < 0 || most > MOST_NAMES || steps < 1) {
             return BAD_BOUNDS;
         }
-        boolean any = search.findBest(rules, nameCount, locked, barred);
+        boolean any = search.findBest(nameCount, locked, barred);
         boolean near = any && search.changedCount() <= most;
         int tried = near ? search.changedCount() : Math.min(most, nameCount);
         if (waysToTry(tried) > steps) {
@@ -119,7 +119,7 @@ public final class LeastChange {
             return NO_CHOICE;
         }
         if (!near) {
-            search.findFirst(rules, nameCount, locked, barred);
+            search.findFirst(nameCount, locked, barred);
         }
         found.keep(search, nameCount, locked);
         return search.changedCount();
@@ -177,7 +177,7 @@ public final class LeastChange {
         for (int name = 0; name < nameCount; name++) {
             joined[name] = Math.max(locked[name], lock >> LOCK_BITS * name & LOCK_MASK);
         }
-        if (!search.findBest(rules, nameCount, joined, barred)) {
+        if (!search.findBest(nameCount, joined, barred)) {
             return 0;
         }
         found.keep(search, nameCount, joined);
@@ -304,14 +304,6 @@ public final class LeastChange {
             }
         }
 
-        private int allowedAlone(int name) {
-            return alone[name];
-        }
-
-        private int allowedBeside(int name, int code, int other) {
-            return beside[place(name, code, other)];
-        }
-
         private static int place(int name, int code, int other) {
             return (name * CODES + code) * MOST_NAMES + other;
         }
@@ -326,6 +318,7 @@ public final class LeastChange {
         private static final int DOWN = 1;
         private static final int NO_COST = CHANGE * (MOST_NAMES + 1);
 
+        private final Rules rules;
         private final int[] left = new int[(MOST_NAMES + 1) * MOST_NAMES];
         private final int[] home = new int[MOST_NAMES];
         private final int[] tried = new int[MOST_NAMES];
@@ -335,14 +328,18 @@ public final class LeastChange {
         private int costBound = NO_COST;
         private boolean endsWithFirst = false;
 
-        private boolean findBest(Rules rules, int names, int[] home, int[] barred) {
-            endsWithFirst = false;
-            return find(rules, names, home, barred);
+        private Search(Rules rules) {
+            this.rules = rules;
         }
 
-        private boolean findFirst(Rules rules, int names, int[] home, int[] barred) {
+        private boolean findBest(int names, int[] home, int[] barred) {
+            endsWithFirst = false;
+            return find(names, home, barred);
+        }
+
+        private boolean findFirst(int names, int[] home, int[] barred) {
             endsWithFirst = true;
-            return find(rules, names, home, barred);
+            return find(names, home, barred);
         }
 
         private int changedCount() {
@@ -353,19 +350,19 @@ public final class LeastChange {
             return kept[name];
         }
 
-        private boolean find(Rules rules, int names, int[] home, int[] barred) {
+        private boolean find(int names, int[] home, int[] barred) {
             this.names = names;
             keptCost = NO_COST;
             costBound = NO_COST;
             for (int name = 0; name < names; name++) {
                 this.home[name] = home[name];
-                left[name] = rules.allowedAlone(name) & ~barred[name];
+                left[name] = rules.alone[name] & ~barred[name];
             }
-            giveFrom(rules, 0, 0);
+            giveFrom(0, 0);
             return keptCost < NO_COST;
         }
 
-        private void giveFrom(Rules rules, int name, int cost) {
+        private void giveFrom(int name, int cost) {
             if (name >= names) {
                 keep(cost);
                 return;
@@ -373,22 +370,21 @@ public final class LeastChange {
             int codes = left[name * MOST_NAMES + name];
             int first = home[name];
             if ((codes >> first & 1) != 0) {
-                give(rules, name, first, cost);
+                give(name, first, cost);
             }
             for (int code = MOST_VERSIONS; code >= NONE_CODE; code--) {
                 if (code != first && (codes >> code & 1) != 0) {
-                    give(rules, name, code, cost);
+                    give(name, code, cost);
                 }
             }
         }
 
-        private void give(Rules rules, int name, int code, int cost) {
+        private void give(int name, int code, int cost) {
             int now = cost + costOf(code, home[name]);
-            if (now >= costBound || now + narrowRest(rules, name, code) >= costBound) {
-                return;
+            if (now + narrowRest(name, code, costBound - now) < costBound) {
+                tried[name] = code;
+                giveFrom(name + 1, now);
             }
-            tried[name] = code;
-            giveFrom(rules, name + 1, now);
         }
 
         /** Every later choice comes after this one in the order, so it must cost less to be better. */
@@ -400,13 +396,14 @@ public final class LeastChange {
             costBound = endsWithFirst ? 0 : cost;
         }
 
-        /** What later names may still be given beside this one; answers the least that they must cost. */
-        private int narrowRest(Rules rules, int name, int code) {
+        /** Narrows what later names may still be given; answers the least they must cost, or no less than room. */
+        private int narrowRest(int name, int code, int room) {
             int from = name * MOST_NAMES;
             int to = from + MOST_NAMES;
+            int beside = Rules.place(name, code, 0);
             int cost = 0;
-            for (int other = name + 1; other < names; other++) {
-                int codes = left[from + other] & rules.allowedBeside(name, code, other);
+            for (int other = name + 1; other < names && cost < room; other++) {
+                int codes = left[from + other] & rules.beside[beside + other];
                 left[to + other] = codes;
                 cost += leastCostOf(codes, home[other]);
             }

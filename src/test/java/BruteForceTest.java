@@ -19,6 +19,7 @@ public final class BruteForceTest {
     private final Random random;
     private final int mostNames;
     private final int mostVersions;
+    private final int namesFirst;
     private final LeastChange real = new LeastChange();
     private final Model model = new Model();
     private final StringBuilder told = new StringBuilder();
@@ -30,11 +31,12 @@ public final class BruteForceTest {
         int[] size = sizes[run % sizes.length];
         this.mostNames = size[0];
         this.mostVersions = size[1];
+        this.namesFirst = random.nextBoolean() ? mostNames : 2;
     }
 
     private void play() {
         for (int call = 0; call < CALLS && check.isClean(); call++) {
-            int kind = model.names() < 2 ? random.nextInt(3) : random.nextInt(40);
+            int kind = model.names() < namesFirst ? random.nextInt(3) : random.nextInt(40);
             if (kind <= 2 && (model.names() < mostNames || kind == 0)) {
                 callName();
             } else if (kind <= 14) {
