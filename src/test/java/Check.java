@@ -16,14 +16,15 @@ final class Check {
         }
     }
 
+    /** The class throws by itself: where the machine throws, its text begins with the index. */
     void dueNoRow(LeastChange x, int i) {
         int thrown = 0;
         try {
             x.row(i);
         } catch (ArrayIndexOutOfBoundsException e) {
-            thrown = 1;
+            thrown = String.valueOf(e.getMessage()).startsWith("Index") ? 2 : 1;
         }
-        due("row(" + i + ") throws ArrayIndexOutOfBoundsException", thrown, 1);
+        due("row(" + i + ") throws ArrayIndexOutOfBoundsException (1 itself, 2 the machine)", thrown, 1);
     }
 
     boolean isClean() {
