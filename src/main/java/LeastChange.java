@@ -369,22 +369,51 @@ public final class LeastChange {
             }
             int codes = left[name * MOST_NAMES + name];
             int first = home[name];
+            int before = 0;
             if ((codes >> first & 1) != 0) {
-                give(name, first, cost);
+                give(name, first, cost, before);
+                before = 1 << first;
             }
             for (int code = MOST_VERSIONS; code >= NONE_CODE; code--) {
                 if (code != first && (codes >> code & 1) != 0) {
-                    give(name, code, cost);
+                    give(name, code, cost, before);
+                    before |= 1 << code;
                 }
             }
         }
 
-        private void give(int name, int code, int cost) {
+        private void give(int name, int code, int cost, int before) {
             int now = cost + costOf(code, home[name]);
-            if (now + narrowRest(name, code, costBound - now) < costBound) {
+            if (now + narrowRest(name, code, costBound - now) < costBound && !isNeedless(name, code, before)) {
                 tried[name] = code;
                 giveFrom(name + 1, now);
             }
+        }
+
+        /** A code that came before, costs no more and leaves later names as much beats all choices with this one. */
+        private boolean isNeedless(int name, int code, int before) {
+            int rivals = isDown(code, home[name]) ? before : before & ~downCodes(home[name]);
+            int beside = Rules.place(name, code, 0);
+            for (int rival = NONE_CODE; rival < CODES; rival++) {
+                if ((rivals >> rival & 1) != 0 && leavesAsMuch(name, Rules.place(name, rival, 0), beside)) {
+                    return true;
+                }
+            }
+            return false;
+        }
+
+        private boolean leavesAsMuch(int name, int besideRival, int beside) {
+            int from = name * MOST_NAMES;
+            for (int other = name + 1; other < names; other++) {
+                if ((left[from + other] & rules.beside[beside + other] & ~rules.beside[besideRival + other]) != 0) {
+                    return false;
+                }
+            }
+            return true;
+        }
+
+        private static int downCodes(int home) {
+            return (1 << home) - 1 & ~NONE_BIT;
         }
 
         /** Every later choice comes after this one in the order, so it must cost less to be better. */
