@@ -37,6 +37,7 @@ public final class FaceTest {
         }
         check.due("NONE", LeastChange.NONE, -1);
         checkNamesOfPrivateMethods(check);
+        checkClassesInside(check);
         check.end();
     }
 
@@ -71,6 +72,15 @@ public final class FaceTest {
                 check.due("private " + method.getName() + " bears a public name",
                     taken.contains(method.getName()) ? 1 : 0, 0);
             }
+        }
+    }
+
+    private static void checkClassesInside(Check check) {
+        for (Class<?> inside : LeastChange.class.getDeclaredClasses()) {
+            int modifiers = inside.getModifiers();
+            boolean hidden = !Modifier.isPublic(modifiers) && !Modifier.isProtected(modifiers);
+            check.due(inside.getName() + " is hidden", hidden ? 1 : 0, 1);
+            check.due(inside.getName() + " is static", Modifier.isStatic(modifiers) ? 1 : 0, 1);
         }
     }
 }
